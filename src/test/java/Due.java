@@ -1,0 +1,51 @@
+/** What the tests share: each compares answers with those that are due, and ends with 1 if one is not. */
+final class Due {
+    private static int asked = 0;
+    private static int wrong = 0;
+
+    private Due() {
+    }
+
+    static void is(String call, long got, long want) {
+        asked++;
+        if (got != want) {
+            wrong++;
+            System.out.println(call + " answered " + got + ", due is " + want);
+        }
+    }
+
+    static int type(PinAtlas x, String text) {
+        int typed = 0;
+        for (int k = 0; k < text.length(); k++) {
+            typed = x.type(text.charAt(k));
+        }
+        return typed;
+    }
+
+    static int read(PinAtlas x, String text) {
+        type(x, text);
+        return x.read();
+    }
+
+    static PinAtlas of(String text) {
+        PinAtlas x = new PinAtlas();
+        int pins = read(x, text);
+        if (pins < 0) {
+            wrong++;
+            System.out.println("the test's own text is at fault: " + text + ": " + pins);
+        }
+        return x;
+    }
+
+    /** A sheet's item can only be felt: by a port that stands on the cell, told by a single item. */
+    static boolean stands(PinAtlas x, int port, int sheet, int lane, int i) {
+        return x.felt(port, sheet, lane, i, 1, 1) == 15;
+    }
+
+    static void end() {
+        System.out.println(wrong == 0 ? asked + " answers are as due" : wrong + " of " + asked + " answers are not as due");
+        if (wrong != 0) {
+            System.exit(1);
+        }
+    }
+}
