@@ -37,11 +37,6 @@ final class Due {
         return x;
     }
 
-    /** A sheet's item can only be felt: by a port that stands on the cell, told by a single item. */
-    static boolean stands(PinAtlas x, int port, int sheet, int lane, int i) {
-        return x.felt(port, sheet, lane, i, 1, 1) == 15;
-    }
-
     static void end() {
         System.out.println(wrong == 0 ? asked + " answers are as due" : wrong + " of " + asked + " answers are not as due");
         if (wrong != 0) {
