@@ -100,6 +100,15 @@ public final class ForetoldTest {
         x.out(2);
         Due.is("both out", x.side(3, 2), PinAtlas.NONE);
         Due.is("both out and alike", x.side(3, 3), PinAtlas.BAD);
+        PinAtlas corner = Due.of("3x4;p00;p11");
+        corner.out(1);
+        Due.is("out, with one on cell 0", corner.side(0, 1), PinAtlas.NONE);
+        PinAtlas late = Due.of("7x6;s64r;s25d");
+        Due.is("two ships, just within 60 days", late.side(0, 1), 60);
+        PinAtlas tooLate = Due.of("7x6;s62u;s53d;s11l;s22r");
+        Due.is("61 days would be needed", tooLate.side(0, 1), PinAtlas.NONE);
+        tooLate.days(1);
+        Due.is("60 are, a day later", tooLate.side(0, 1), 60);
     }
 
     private static void hole() {
