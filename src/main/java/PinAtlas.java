@@ -11,6 +11,7 @@ public final class PinAtlas {
     private static final int A_HOLE = 100;
     private static final int LAST_DAY = 9999, DAYS_AT_ONCE = 40, HORIZON = 60, BREAK_HORIZON = 30;
     private static final int UNDOABLE = 8;
+    private static final int LOWEST_31_BITS = 0x7fffffff;
     private static final int TAPE_LENGTH = 120, END = -1, FIRST_FAULT = -20;
     private static final int SHEETS = 4, LANES = 4, MOST_ITEMS = 24;
     private static final int DAYS_FELT = 8, DAYS_FILMED = 24;
@@ -691,12 +692,12 @@ public final class PinAtlas {
 
         private int nearestHole(int cell) {
             int best = NONE;
-            int least = Integer.MAX_VALUE;
+            int least = 0;
             long rest = holeSet;
             for (int c = 0; c < MOST_CELLS && rest != 0; c++) {
                 if ((rest & 1L) != 0) {
                     int f = far(cell, c);
-                    if (f < least) {
+                    if (best == NONE || f < least) {
                         best = c;
                         least = f;
                     }
@@ -871,7 +872,7 @@ public final class PinAtlas {
         }
 
         private void gathersDust() {
-            draw = draw * 1103515245 + 12345 & Integer.MAX_VALUE;
+            draw = draw * 1103515245 + 12345 & LOWEST_31_BITS;
             int many = cellCount();
             int cell = draw / 65536 % (many < 1 ? 1 : many);
             if (pinOn(cell) == NONE && draw / 128 % 3 == 0) {
@@ -949,6 +950,9 @@ public final class PinAtlas {
         }
 
         private void becomes(Past other) {
+            if (other == null) {
+                return;
+            }
             first = 0;
             known = other.known;
             for (int k = 0; k < known; k++) {

@@ -2,16 +2,37 @@
 final class Due {
     private static int asked = 0;
     private static int wrong = 0;
+    private static String sentence = "";
 
     private Due() {
+    }
+
+    /** The answers from here on are due by this sentence of the document. */
+    static void by(String words) {
+        sentence = "[" + words + "] ";
     }
 
     static void is(String call, long got, long want) {
         asked++;
         if (got != want) {
-            wrong++;
-            System.out.println(call + " answered " + got + ", due is " + want);
+            isWrong(call + " answered " + got + ", due is " + want);
         }
+    }
+
+    static void same(String what, String got, String want) {
+        asked++;
+        if (!got.equals(want)) {
+            isWrong(what + ": it is\n  " + got + "\n  due is\n  " + want);
+        }
+    }
+
+    static void isWrong(String what) {
+        wrong++;
+        System.out.println(sentence + what);
+    }
+
+    static int asked() {
+        return asked;
     }
 
     static int type(PinAtlas x, String text) {
@@ -31,8 +52,7 @@ final class Due {
         PinAtlas x = new PinAtlas();
         int pins = read(x, text);
         if (pins < 0) {
-            wrong++;
-            System.out.println("the test's own text is at fault: " + text + ": " + pins);
+            isWrong("the test's own text is at fault: " + text + ": " + pins);
         }
         return x;
     }

@@ -24,7 +24,8 @@ public final class FaceTest {
     private static final String[] BARRED = {"->", "::", "\\btry\\b", "\\bcatch\\b", "\\bthrows?\\b", "\\bfinally\\b",
         "\\bsynchronized\\b", "\\bassert\\b", "\\bnative\\b", "\\bvolatile\\b", "\\bpackage\\b", "\\bprotected\\b",
         "\\bvar\\b", "\\bwhile \\(true\\)", "\"\\s*\\+", "\\+\\s*\"", "\\bSystem\\.(?!arraycopy\\b)",
-        "\\bMath\\.(?!max\\b|min\\b|abs\\b)", "\\bimport (?!java\\.util\\.Arrays;)", "\\bjava\\.(?!util\\.Arrays;)",
+        "\\bMath\\.(?!max\\b|min\\b|abs\\b)", "\\b(Integer|Long)\\.(?!bitCount\\()",
+        "\\bimport (?!java\\.util\\.Arrays;)", "\\bjava\\.(?!util\\.Arrays;)",
         "\\bstatic (?!final |class |int |boolean |void )", "[^\\x00-\\x7f]"};
 
     public static void main(String[] args) throws Exception {
