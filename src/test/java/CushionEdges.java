@@ -31,11 +31,32 @@ final class CushionEdges extends Edges {
         Due.is("no pins", x.count(2), 0);
         Due.is("pin 0", x.of(0, 0), BAD);
         Due.is("thread 0", x.at(0, 0), BAD);
+        noPins();
         Doc.asks(T, "It is DAY 0 at first.");
         Due.is("the day", x.count(4), 0);
         x.days(1);
         Due.is("a day later", x.count(4), 1);
         Due.is("another object", new PinAtlas().count(4), 0);
+    }
+
+    /** Each call of a PIN, a THREAD: there is none. What is of none of them is answered. */
+    private static void noPins() {
+        Call[] calls = {x -> x.of(0, 1), x -> x.at(0, 0), x -> x.out(0), x -> x.put(0, 0), x -> x.cut(0), x -> x.course(0, 0),
+            x -> x.thread(0, 1, 1), x -> x.ahead(0, 0), x -> x.comes(0, 0), x -> x.side(0, 1), x -> x.hole(0, 0, 0),
+            x -> x.cuts(0, 0, 0), x -> x.place(0, 0, 0), x -> x.bound(0), x -> x.between(0, 1), x -> x.breaks(0, 0, 0, 0, 0),
+            x -> x.felt(0, 0, 0, 0, 1, 0), x -> x.film(0, 1, 0, 0, 0)};
+        for (int k = 0; k < calls.length; k++) {
+            refuses("of no pin, call " + k, BAD, PinAtlas::new, calls[k]);
+        }
+        PinAtlas x = new PinAtlas();
+        Due.is("nobody is alone", x.which(0), 0);
+        Due.is("nothing is taut", x.which(1), 0);
+        Due.is("nobody is out", x.count(6), 0);
+        Due.is("nothing holds", x.count(7), 0);
+        Due.is("no hole will be", x.holes(60), 0);
+        Due.is("no hole is near", x.nearest(12, 0), NONE);
+        Due.is("days go by", x.days(40), 0);
+        Due.is("none may be restored", x.restore(), NONE);
     }
 
     private static void sides() {

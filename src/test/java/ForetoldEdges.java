@@ -24,6 +24,7 @@ final class ForetoldEdges extends Edges {
         taut();
         breaks();
         breaksInLowestTerms();
+        fullCushion();
     }
 
     private static void nothingIsChanged() {
@@ -532,5 +533,30 @@ final class ForetoldEdges extends Edges {
         fraction("six by 0", six, 7, 0, 1, 1);
         six.out(0);
         fraction("out", six, 7, 5, 0, 1);
+    }
+
+    /** Seven pins, six threads, a hole to each other cell: nobody can go but to a hole, and no cell is without. */
+    private static void fullCushion() {
+        Doc.asks(T, "2 FORETOLD from now (nothing is changed): ");
+        PinAtlas x = Due.of("3x3;p00;p01;p02;p10;p11;p12;m20;o21;o22;t01=1;t12=1;t34=1;t45=1;t36=1;t03=1");
+        Due.is("behind 1 day", x.ahead(6, 1), 6);
+        Due.is("its thread holds it", x.of(6, 3), 0);
+        Due.is("holes behind 60 days", x.holes(60), 2);
+        for (int c = 0; c < 9; c++) {
+            Due.is("hole: no cell is free, " + c, x.hole(6, c, 0), NONE);
+            Due.is("comes to " + c, x.comes(6, c), c == 6 ? 0 : NONE);
+            Due.is("cuts for " + c, x.cuts(6, c, 1), c == 6 ? 0 : c > 6 ? 16 : NONE);
+        }
+        Due.is("all are bound", x.bound(6), 127);
+        Due.is("the farthest", x.between(6, 2), 4);
+        Due.is("nobody is alone", x.which(0), 0);
+        Due.is("all are taut", x.which(1), 63);
+        Due.is("of six threads one matters", x.breaks(6, 7, 30, 3, 0), 0);
+        Due.is("behind 1 day", x.breaks(6, 7, 1, 3, 0) * 10 + x.breaks(6, 7, 1, 3, 1), 40);
+        Due.is("behind 2 days", x.breaks(6, 8, 2, 7, 0) * 100 + x.breaks(6, 8, 2, 7, 1), 710);
+        x.out(6);
+        Due.is("put on a hole beside it", x.place(6, 7, 0), 7);
+        Due.is("where a port is", x.place(6, 5, 0), NONE);
+        Due.is("the nearest of three holes", x.nearest(6, 0), 6);
     }
 }
